@@ -621,7 +621,10 @@ public final class HandedVoices {
             return (letter * SIGNS + sign) * NUMBERS + number;
         }
 
-        /** The open operands are the bits of one number: nesting ends long before its bits do. */
+        /**
+         * The open operands are the bits of one number: a bar leaves one, and in
+         * no nesting are there more than ten besides.
+         */
         private boolean forbid(int[] facts) {
             int open = 0;
             for (int k = 0; k < length; k++) {
@@ -636,7 +639,7 @@ public final class HandedVoices {
                     open = step == OR ? open | top : open & (top | ~1);
                 }
             }
-            return (open & 1) != 0;
+            return open != 0;
         }
 
         private static boolean isTrue(int step, int[] facts) {
@@ -703,7 +706,7 @@ public final class HandedVoices {
         private boolean clause() {
             switch (seen()) {
                 case 'b':
-                    return word("bar ") && bar();
+                    return word("bar ") && either(0);
                 case 'c':
                     if (!word("cap ") || !figuresOf()) {
                         return false;
@@ -725,17 +728,6 @@ public final class HandedVoices {
                     return false;
                 }
                 place++;
-            }
-            return true;
-        }
-
-        private boolean bar() {
-            boolean further = draft.length > 0;
-            if (!either(0)) {
-                return false;
-            }
-            if (further) {
-                draft.add(Rules.OR);
             }
             return true;
         }
