@@ -35,6 +35,7 @@ public final class PromiseTest {
         best();
         bestRules();
         right();
+        rightOfThoseHeard();
         surest();
         breach();
         rather();
@@ -396,6 +397,10 @@ public final class PromiseTest {
         due(x.barred(0, 3, 1), 0);
         hall(x, "bar b=4");
         due(x.barred(0, 4, 0), 1);
+        hall(x, "bar m=0;bar !a<0");
+        due(x.barred(0, 4, 0), 1);
+        hall(x, "bar m=0;bar a<0");
+        due(x.barred(0, 4, 1), 0);
     }
 
     private static void shares() {
@@ -603,6 +608,9 @@ public final class PromiseTest {
         hall(x, "need 0 1");
         due(x.few(0), 2);
         due(x.few(1), 1);
+        HandedVoices y = with(8);
+        hall(y, "need 7 8");
+        due(y.few(0), 255);
         due(x.few(3), NONE);
         due(x.few(-1), NONE);
     }
@@ -647,6 +655,16 @@ public final class PromiseTest {
         x.names(0, 1, 1, 2, 0);
         due(x.best(1, -1), 0);
         due(x.best(1, 0), ABSENT);
+        HandedVoices y = with(8);
+        for (int i = 0; i < 7; i++) {
+            y.names(i, 0, (i + 1) % 7, 7, 0);
+        }
+        due(y.best(0, -1), 127);
+        due(y.best(0, 0), 1);
+        due(y.best(0, 6), 0);
+        hall(y, "bar b<7");
+        due(y.best(0, -1), 1);
+        due(y.best(0, 6), 1);
     }
 
     /** What the two rings make of orders that go round. */
@@ -691,7 +709,7 @@ public final class PromiseTest {
         due(x.right(0, 0, 1), 125);
     }
 
-    private static void surest() {
+    private static void rightOfThoseHeard() {
         of(21);
         check = 100;
         HandedVoices x = with(3);
@@ -718,7 +736,15 @@ public final class PromiseTest {
         due(x.right(0, -1, 0), NO);
         due(x.right(0, 0, 2), NO);
         due(x.right(0, 0, -1), NO);
+    }
+
+    private static void surest() {
         of(22);
+        HandedVoices x = with(3);
+        x.think(0, 0, false, 9);
+        x.think(1, 0, true, 9);
+        x.think(2, 0, false, 10);
+        x.give(2, 0, 0);
         due(x.surest(0), 2);
         due(x.surest(1), 0);
         x.think(2, 0, false, 9);
@@ -762,6 +788,12 @@ public final class PromiseTest {
         due(x.rather(0), 3);
         hall(x, "bar a=0");
         due(x.rather(0), 13);
+        hall(x, "need 66 100");
+        // two of three are just enough: 0 alone is right with 2 of ten, 1 with 5
+        due(x.rather(0), 2);
+        // two of three aren't: all must be right, or, if 0 gives to 1, both
+        hall(x, "need 67 100");
+        due(x.rather(0), 2);
         hall(x, "ring l");
         x.give(0, 1, 1);
         x.think(0, 1, false, 9);
@@ -795,6 +827,18 @@ public final class PromiseTest {
         due(x.of(1, 0, 0), 1);
         due(x.of(0, 0, 2), 1);
         due(x.right(0, 0, 0), 1);
+        HandedVoices y = with(8);
+        hall(y, "need 1 3");
+        int[] sure = {8, 7, 4, 3, 4, 9, 4, 9};
+        for (int i = 0; i < 8; i++) {
+            y.think(i, 1, true, sure[i]);
+        }
+        y.names(0, 1, 3, 6, 0);
+        y.names(2, 1, 6, 4, 0);
+        y.give(7, 1, 6);
+        due(y.settle(1), 12);
+        due(y.rather(1), 3);
+        due(y.of(0, 1, 0), 1);
         due(x.settle(3), NONE);
         due(x.settle(-1), NONE);
         due(new HandedVoices().settle(0), 0);
@@ -867,6 +911,18 @@ public final class PromiseTest {
         due(x.late(0), ABSENT);
         x.back(1, 0, 30);
         due(x.late(0), 59);
+        HandedVoices y = with(2);
+        y.think(1, 0, true, 5);
+        y.give(0, 0, 1);
+        y.back(0, 0, 99);
+        due(y.late(0), 99);
+        y.hand(0, 0, 1);
+        due(y.late(0), ABSENT);
+        y.give(0, 0, 1);
+        y.back(0, 0, 7);
+        y.names(1, 0, 0, 7, 9);
+        due(y.decided(0), 1);
+        due(y.late(0), 99);
         due(x.late(3), NONE);
         due(x.late(-1), NONE);
         for (int k = 0; k < 3; k++) {
@@ -898,6 +954,9 @@ public final class PromiseTest {
         due(x.fewest(0), 0);
         hall(x, "need 1 1");
         due(x.fewest(0), ABSENT);
+        HandedVoices y = with(8);
+        hall(y, "need 7 8");
+        due(y.fewest(0), 255);
         due(x.fewest(3), NONE);
         due(x.fewest(-1), NONE);
         due(x.of(2, 0, 0), 2);
