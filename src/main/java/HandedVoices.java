@@ -14,6 +14,11 @@ public final class HandedVoices {
     /** A FAULT is told as this less its place. */
     private static final int FAULTS = -10;
 
+    /** In the place of a member, where none gives and none takes. */
+    private static final int NOBODY = -1;
+    /** In the place of a member, where the ways are to be counted. */
+    private static final int ALL_WAYS = -1;
+
     private static final int SEATS = 8, MATTERS = 3, CELLS = SEATS * MATTERS;
     private static final int TEN = 10;
     private static final int LAST_MINUTE = 99, NEVER = 100, LONGEST_PASS = 20;
@@ -164,7 +169,7 @@ public final class HandedVoices {
     public int hall() {
         int fault = text.fault();
         text.size = 0;
-        if (fault >= 0) {
+        if (fault != HallText.SOUND) {
             return FAULTS - fault;
         }
         text.draft = law.adopt(text.draft);
@@ -185,7 +190,7 @@ public final class HandedVoices {
         if (!hands.sits(from) || !hands.sits(to) || !isMatter(matter)) {
             return NONE;
         }
-        spread.lay(matter, hands.now, 0, NONE, NONE);
+        spread.lay(matter, hands.now, 0, NOBODY, NOBODY);
         return spread.tenths[from * SEATS + to];
     }
 
@@ -203,7 +208,7 @@ public final class HandedVoices {
         if (!isMatter(matter)) {
             return NONE;
         }
-        spread.lay(matter, hands.now, 0, NONE, NONE);
+        spread.lay(matter, hands.now, 0, NOBODY, NOBODY);
         return spread.everyone & ~spread.reaching();
     }
 
@@ -270,15 +275,15 @@ public final class HandedVoices {
     // ---- ways, being right
 
     public int best(int matter, int i) {
-        if (!isMatter(matter) || i != NONE && !hands.sits(i)) {
+        if (!isMatter(matter) || i != ALL_WAYS && !hands.sits(i)) {
             return NONE;
         }
-        spread.layFirm(matter, hands.now, 0, NONE, NONE);
-        if (i != NONE && (spread.orders >> i & 1) == 0) {
+        spread.layFirm(matter, hands.now, 0, NOBODY, NOBODY);
+        if (i != ALL_WAYS && (spread.orders >> i & 1) == 0) {
             return NONE;
         }
         spread.seekWays(true);
-        if (i == NONE) {
+        if (i == ALL_WAYS) {
             return spread.ways;
         }
         return spread.bestWay < 0 ? ABSENT : spread.bestWay >> i & 1;
@@ -289,7 +294,7 @@ public final class HandedVoices {
             return NO;
         }
         int selves = what == 1 ? (1 << SEATS) - 1 : 0;
-        return lowest(tally.chanceIf(matter, selves, NONE, NONE), Tally.CERTAIN, part);
+        return lowest(tally.chanceIf(matter, selves, NOBODY, NOBODY), Tally.CERTAIN, part);
     }
 
     public int surest(int matter) {
@@ -662,7 +667,8 @@ public final class HandedVoices {
 
     /** THE TEXT, and how it is read as a hall. */
     private static final class HallText {
-        private static final int LONGEST = 100, CLAUSES = 6, NESTING = 4, END = -1;
+        private static final int LONGEST = 100, CLAUSES = 6, NESTING = 4;
+        private static final int SOUND = -1, UNKNOWN = -1, END = -1;
         private static final int FIGURES = 3;
         private static final String LETTERS = "abmsq", SIGNS = "<=>";
 
@@ -680,7 +686,7 @@ public final class HandedVoices {
             }
         }
 
-        /** Reads THE TEXT into the draft: the place of the fault, or below 0 if there is none. */
+        /** Reads THE TEXT into the draft: the place of the fault, or SOUND. */
         private int fault() {
             place = 0;
             draft.clear();
@@ -689,7 +695,7 @@ public final class HandedVoices {
                     return place;
                 }
                 if (place == size) {
-                    return NONE;
+                    return SOUND;
                 }
                 if (n == CLAUSES || seen() != ';') {
                     return place;
@@ -776,6 +782,7 @@ public final class HandedVoices {
             return figures > 0;
         }
 
+        /** F&F.. in a row with | between. The depth is that of the ( and ! around it. */
         private boolean either(int depth) {
             for (int terms = 0; terms < LONGEST; terms++) {
                 if (!single(depth)) {
@@ -843,7 +850,7 @@ public final class HandedVoices {
                     return k;
                 }
             }
-            return NONE;
+            return UNKNOWN;
         }
     }
 
@@ -881,6 +888,7 @@ public final class HandedVoices {
             return (masks[cell(from, matter)] >> to & 1) != 0;
         }
 
+        /** The facts stand in the order of the letters of tests. */
         private int maskOf(int from, int matter) {
             int mask = 0;
             facts[0] = from;
@@ -899,7 +907,7 @@ public final class HandedVoices {
 
     /**
      * Where the voices go in one matter at one minute, if some members had SELF
-     * (bits) and one gave its voice to another (or NONE did).
+     * (bits) and one gave its voice to another (or NOBODY did).
      */
     private static final class Spread {
         private final Hands hands;
@@ -1078,8 +1086,7 @@ public final class HandedVoices {
         }
 
         private void reckonNow(int matter) {
-            spread.lay(matter, hands.now, 0, NONE, NONE);
-            weigh();
+            reckon(matter, hands.now, 0, NOBODY, NOBODY);
         }
 
         private void reckon(int matter, int minute, int selves, int giver, int taker) {
@@ -1112,7 +1119,11 @@ public final class HandedVoices {
             return n;
         }
 
-        /** A row a member: ten times a tenth of what goes through it, less what it is handed, is one. */
+        /**
+         * The unknowns are tenths of what goes through each that is heard. A row
+         * says that a member's ten of them, less those handed to it, are the one
+         * voice of its own.
+         */
         private void fillRows(int n) {
             for (int r = 0; r < n; r++) {
                 for (int c = 0; c < n; c++) {
@@ -1189,6 +1200,7 @@ public final class HandedVoices {
             return most;
         }
 
+        /** Does by itself what reckon does, as the calls below it go as deep as they may. */
         private long chanceIf(int matter, int selves, int giver, int taker) {
             spread.lay(matter, hands.now, selves, giver, taker);
             weigh();
@@ -1245,7 +1257,7 @@ public final class HandedVoices {
         }
 
         private int firstBreach(int matter) {
-            tally.reckonNow(matter);
+            tally.reckon(matter, hands.now, 0, NOBODY, NOBODY);
             long wholeNow = tally.whole;
             int alone = 0;
             for (int i = 0; i < hands.members; i++) {
@@ -1270,9 +1282,9 @@ public final class HandedVoices {
         }
 
         private int firstWish(int matter) {
-            long asItIs = tally.chanceIf(matter, 0, NONE, NONE);
+            long asItIs = tally.chanceIf(matter, 0, NOBODY, NOBODY);
             for (int i = 0; i < hands.members; i++) {
-                if (tally.chanceIf(matter, 1 << i, NONE, NONE) > asItIs) {
+                if (tally.chanceIf(matter, 1 << i, NOBODY, NOBODY) > asItIs) {
                     return TEN * i;
                 }
                 for (int j = 0; j < hands.members; j++) {
@@ -1295,7 +1307,7 @@ public final class HandedVoices {
                 if ((set & ~movable) != 0 || members > n) {
                     continue;
                 }
-                tally.reckon(matter, hands.now, set, NONE, NONE);
+                tally.reckon(matter, hands.now, set, NOBODY, NOBODY);
                 if (tally.highest() > h * tally.whole) {
                     continue;
                 }
@@ -1321,7 +1333,7 @@ public final class HandedVoices {
 
         private int lastOtherwise(int matter) {
             boolean so = decidedAt(matter, hands.now);
-            int reckoned = NONE;
+            int reckoned = hands.takenBackAt(matter, hands.now);
             for (int minute = LAST_MINUTE; minute > hands.now; minute--) {
                 int back = hands.takenBackAt(matter, minute);
                 // Nothing but the hands taken back sets one minute apart from another.
@@ -1336,8 +1348,9 @@ public final class HandedVoices {
             return ABSENT;
         }
 
+        /** Does by itself what reckon does, as the calls below it go as deep as they may. */
         private boolean decidedAt(int matter, int minute) {
-            spread.lay(matter, minute, 0, NONE, NONE);
+            spread.lay(matter, minute, 0, NOBODY, NOBODY);
             tally.weigh();
             return tally.decides(tally.sumOf(hands.yes[matter]));
         }
@@ -1352,7 +1365,7 @@ public final class HandedVoices {
                 if ((set & ~against) != 0 || members >= size) {
                     continue;
                 }
-                tally.reckon(matter, hands.now, set, NONE, NONE);
+                tally.reckon(matter, hands.now, set, NOBODY, NOBODY);
                 if (tally.decides(tally.sumOf(yes | set))) {
                     found = set;
                     size = members;
@@ -1365,8 +1378,6 @@ public final class HandedVoices {
     /** The bodies of the kinds of hands, and the trace that they leave. */
     private static final class Acts {
         private static final int KEPT = 20;
-        /** Parts that tell go through seven bodies, one within the other; none goes deeper. */
-        private static final int DEEPEST = 7;
 
         private final int[] numbers = new int[KEPT];
         private int bodies;
@@ -1388,11 +1399,11 @@ public final class HandedVoices {
             topic = matter;
             switch (deed) {
                 case 0:
-                    return gives(kind, x, 1);
+                    return gives(x);
                 case 1:
-                    return holds(kind, x, 1);
+                    return holds(x);
                 default:
-                    return tells(kind, x, 1);
+                    return tells(x);
             }
         }
 
@@ -1403,57 +1414,59 @@ public final class HandedVoices {
             bodies++;
         }
 
-        /** The first body at or above a kind; super is the kind above, and any other call starts at the hand's own. */
-        private int gives(int from, int x, int depth) {
-            if (depth > DEEPEST) {
-                return 0;
-            }
-            if (from == PARTS) {
+        // No body does anything ahead of its super call but to change x. So the
+        // bodies of a kind and of those above it begin one after the other, and
+        // what each makes of the answer follows in the other order.
+
+        private int gives(int x) {
+            int doubled = x;
+            if (kind == PARTS) {
                 begin(51);
-                return gives(GIVE, x, depth + 1) ^ topic;
             }
-            if (from >= GIVE) {
+            if (kind >= GIVE) {
                 begin(30);
-                return gives(HAND, x * 2, depth + 1);
+                doubled = x * 2;
             }
             begin(10);
-            return x + seat;
+            int given = doubled + seat;
+            return kind == PARTS ? given ^ topic : given;
         }
 
-        private int holds(int from, int x, int depth) {
-            if (depth > DEEPEST) {
-                return 0;
-            }
-            if (from == ORDER) {
+        private int holds(int x) {
+            if (kind == ORDER) {
                 begin(40);
-                return holds(GIVE, x, depth + 1) + gives(kind, 1, depth + 1);
             }
-            if (from >= GIVE) {
+            if (kind >= GIVE) {
                 begin(31);
-                return -holds(HAND, x, depth + 1);
             }
             begin(11);
-            return gives(kind, x, depth + 1) - topic;
+            int held = gives(x) - topic;
+            if (kind >= GIVE) {
+                held = -held;
+            }
+            return kind == ORDER ? held + gives(1) : held;
         }
 
-        private int tells(int from, int x, int depth) {
-            if (depth > DEEPEST) {
-                return 0;
+        private int tells(int x) {
+            switch (kind) {
+                case BLIND:
+                    begin(60);
+                    int held = holds(x);
+                    return held - tellsAsHand(x);
+                case PARTS:
+                    begin(50);
+                    return tellsAsHand(x - seat);
+                case SELF:
+                    begin(20);
+                    return tellsAsHand(x) ^ 7;
+                default:
+                    return tellsAsHand(x);
             }
-            if (from == BLIND) {
-                begin(60);
-                return holds(kind, x, depth + 1) - tells(GIVE, x, depth + 1);
-            }
-            if (from == PARTS) {
-                begin(50);
-                return tells(GIVE, x - seat, depth + 1);
-            }
-            if (from == SELF) {
-                begin(20);
-                return tells(HAND, x, depth + 1) ^ 7;
-            }
+        }
+
+        private int tellsAsHand(int x) {
             begin(12);
-            return holds(kind, x, depth + 1) * 2;
+            return holds(x) * 2;
         }
     }
 
