@@ -401,6 +401,7 @@ public final class PromiseTest {
         due(x.barred(0, 4, 0), 1);
         hall(x, "bar m=0;bar a<0");
         due(x.barred(0, 4, 1), 0);
+        due(x.barred(0, 4, 0), 1);
     }
 
     private static void shares() {
