@@ -36,6 +36,7 @@ public final class BoundsTest {
         itemAndRead();
         shift();
         shiftToItself();
+        lastOfAll();
         Check.finish();
     }
 
@@ -624,5 +625,43 @@ public final class BoundsTest {
             Check.due(x.read(sort, 1), 1);
             Check.due(x.read(sort, 2), 0);
         }
+    }
+
+    /** Eight members, the last matter and the last minute: in a row of either nothing stands behind them. */
+    private static void lastOfAll() {
+        Check.says("MEMBERS 0 .. 7, MATTERS 0 .. 2, MINUTES 0 .. 99: every call with the last of each");
+        HandedVoices x = Check.with(8);
+        Check.pass(x, 99);
+        for (int k = 0; k < 8; k++) {
+            x.think(k, 2, k > 3, k);
+            x.back(k, 2, 99);
+        }
+        Check.due(x.breach(2), Check.ABSENT);
+        // all but 7 are more often wrong than 7: 0 gives to 1 first of all
+        Check.due(x.rather(2), 2);
+        Check.due(x.late(2), Check.ABSENT);
+        Check.due(x.fewest(2), 1);
+        Check.due(x.surest(2), 7);
+        Check.due(x.few(2), 31);
+        Check.due(x.mend(2, 1, 8), 0);
+        for (int k = 0; k < 7; k++) {
+            x.give(k, 2, 7);
+        }
+        x.names(6, 2, 0, 7, 0);
+        Check.due(x.best(2, -1), 2);
+        Check.due(x.best(2, 6), 0);
+        Check.due(x.best(2, 7), Check.NONE);
+        Check.due(x.breach(2), Check.ABSENT);
+        Check.due(x.rather(2), Check.ABSENT);
+        Check.due(x.settle(2), 0);
+        Check.due(x.late(2), Check.ABSENT);
+        Check.due(x.fewest(2), 0);
+        Check.due(x.mend(2, 7, 8), 1);
+        Check.due(x.heap(2, 0), 8);
+        Check.due(x.right(2, 0, 0), 7);
+        Check.due(x.right(2, 0, 1), 10);
+        Check.due(x.turning(2), 128);
+        Check.due(x.power(7, 2), 1);
+        Check.due(x.lost(2), 0);
     }
 }

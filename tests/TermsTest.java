@@ -668,6 +668,8 @@ public final class TermsTest {
         Check.due(barredBy("!(!a=1|!a>0)"), 2);
         Check.due(barredBy("((((a=2))))"), 4);
         Check.due(barredBy("a=3|!(a>0|m>0)"), 9);
+        Check.due(barredBy("a=1|!a<0"), 15);
+        Check.due(barredBy("a=1&!a<0"), 2);
     }
 
     private static void newestHall() {
@@ -906,6 +908,7 @@ public final class TermsTest {
         fitsItself();
         spokenPart();
         capAtMost();
+        leastVoices();
         lostHaveNone();
         lowestTerms();
     }
@@ -989,6 +992,25 @@ public final class TermsTest {
         Check.dueVoices(x, 1, 0, 1);
         Check.hall(x, "cap 999");
         Check.dueVoices(x, 1, 23, 10);
+    }
+
+    private static void leastVoices() {
+        Check.says("SPEAKS with a part above 0; with VOICES, as few as can be");
+        HandedVoices x = Check.with(3);
+        x.names(0, 0, 2, 1, 1);
+        x.give(1, 0, 2);
+        x.give(2, 0, 1);
+        Check.hall(x, "bar a=0&b=2");
+        // a tenth of its own voice stays with 0, the others are lost with 1 and 2
+        Check.due(x.lost(0), 6);
+        Check.dueVoices(x, 0, 1, 10);
+        Check.dueFraction(x.heap(0, 0), x.heap(0, 1), 1, 10);
+        Check.due(x.few(0), 1);
+        Check.due(x.turning(0), 1);
+        Check.due(x.power(0, 0), 1);
+        Check.dueRight(x, 1, 2);
+        Check.due(x.mend(0, 0, 0), Check.ABSENT);
+        Check.due(x.mend(0, 1, 0), 0);
     }
 
     private static void lostHaveNone() {
@@ -1185,6 +1207,7 @@ public final class TermsTest {
 
     private static void ways() {
         waysWithNobodyLost();
+        waysPastOtherHands();
         notTakenBack();
         neitherBarred();
         fewestSeconds();
@@ -1210,6 +1233,31 @@ public final class TermsTest {
         x.hand(3, 0, 1);
         x.give(2, 0, 3);
         Check.due(x.best(0, -1), 3);
+    }
+
+    private static void waysPastOtherHands() {
+        Check.says("BEST: those with nobody LOST, by parts above 0 and by BLIND hands, too");
+        HandedVoices x = Check.with(4);
+        x.think(3, 0, true, 9);
+        x.names(0, 0, 1, 2, 0);
+        x.names(1, 0, 0, 3, 9);
+        x.hand(2, 0, 5);
+        // 0 hands to 1, of which a tenth goes on to 3, or to 2, which hands all to 3
+        Check.due(x.best(0, -1), 2);
+        Check.due(x.best(0, 0), 0);
+        x.think(0, 0, true, 10);
+        Check.due(x.best(0, -1), 1);
+        Check.due(x.best(0, 0), 0);
+        Check.hall(x, "bar b=3");
+        // what 1 may not hand to 3 it speaks with, and 2 hands to 0
+        Check.due(x.best(0, -1), 1);
+        Check.hall(x, "bar b=3;bar a=1&b=0");
+        Check.due(x.share(1, 1, 0), 10);
+        Check.due(x.best(0, -1), 1);
+        x.give(1, 0, 0);
+        Check.hall(x, "bar a=2&b=0");
+        Check.due(x.best(0, -1), 1);
+        Check.due(x.best(0, 0), 1);
     }
 
     private static void notTakenBack() {
@@ -1634,6 +1682,7 @@ public final class TermsTest {
 
     private static void lateAndFewest() {
         lastMinute();
+        whoeverTakesItBack();
         decidedOtherwise();
         fewestWonOver();
         noneToWin();
@@ -1660,6 +1709,28 @@ public final class TermsTest {
         x.pass(1);
         Check.due(x.late(0), Check.ABSENT);
         Check.due(new HandedVoices().late(0), Check.ABSENT);
+    }
+
+    private static void whoeverTakesItBack() {
+        Check.says("LATE, whoever takes its HAND back");
+        for (int k = 1; k < 8; k++) {
+            HandedVoices x = Check.with(8);
+            Check.hall(x, "need 1 8");
+            x.think(0, 0, true, 5);
+            x.give(k, 0, 0);
+            x.back(k, 0, 50);
+            Check.due("as " + k + " does", x.late(0), 99);
+        }
+        HandedVoices y = Check.with(5);
+        y.think(0, 0, true, 5);
+        y.think(2, 0, true, 5);
+        y.give(1, 0, 0);
+        y.give(4, 0, 0);
+        y.give(2, 0, 3);
+        // three of five; from 20 on two, as 1 says no; from 40 on three again, as 2 says yes for itself
+        y.back(1, 0, 20);
+        y.back(2, 0, 40);
+        Check.due(y.late(0), 39);
     }
 
     private static void decidedOtherwise() {
