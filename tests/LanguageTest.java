@@ -5,7 +5,9 @@ import java.lang.reflect.Modifier;
 import java.nio.file.Files;
 import java.nio.file.Path;
 import java.util.ArrayList;
+import java.util.HashMap;
 import java.util.List;
+import java.util.Map;
 import java.util.Set;
 import java.util.TreeSet;
 import java.util.regex.Matcher;
@@ -41,6 +43,7 @@ public final class LanguageTest {
         }
         objects(bare);
         lengths(bare);
+        depths(bare);
         face();
         for (Class<?> inside : HandedVoices.class.getDeclaredClasses()) {
             inside(inside);
@@ -82,6 +85,44 @@ public final class LanguageTest {
                 start = -1;
             }
         }
+    }
+
+    /** Calls go at most eight deep, the library's counted too; two that call one another count once each. */
+    private static void depths(String bare) {
+        Map<String, Set<String>> calls = new HashMap<>();
+        String code = bare.replaceAll("\"[^\"]*\"", "0").replaceAll("'[^']*'", "0");
+        Matcher head = Pattern.compile("\n {4}( {4})?(public|private)( static)? \\w+ (\\w+)\\(.*\\) \\{").matcher(code);
+        while (head.find()) {
+            String indent = head.group(1) == null ? "\n    }" : "\n        }";
+            // methods of one name are taken for one, which can only make the way longer
+            Set<String> called = calls.computeIfAbsent(head.group(4), k -> new TreeSet<>());
+            String body = code.substring(head.end(), code.indexOf(indent, head.end()));
+            Matcher call = Pattern.compile("\\b(\\w+)\\(").matcher(body);
+            while (call.find()) {
+                called.add(call.group(1));
+            }
+        }
+        for (String name : FACE) {
+            List<String> way = longest(name, calls, new ArrayList<>());
+            if (way.size() > 8) {
+                fault("calls go too deep: " + way);
+            }
+        }
+    }
+
+    private static List<String> longest(String name, Map<String, Set<String>> calls, List<String> above) {
+        above.add(name);
+        List<String> best = List.of();
+        for (String called : calls.getOrDefault(name, Set.of())) {
+            if (!above.contains(called)) {
+                List<String> way = longest(called, calls, above);
+                best = way.size() > best.size() ? way : best;
+            }
+        }
+        above.remove(name);
+        List<String> whole = new ArrayList<>(List.of(name));
+        whole.addAll(best);
+        return whole;
     }
 
     private static void face() {

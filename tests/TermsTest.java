@@ -1922,6 +1922,10 @@ public final class TermsTest {
             Check.due("of " + size, tabled(0, size).table(0, 0, 0), told[size]);
         }
         Check.due(tabled(55, 60).table(0, 55, 0), 102);
+        // half beyond is beyond, even if the half that is there differs already
+        HandedVoices x = tabled(0, 5);
+        x.item(0, 4, 99);
+        Check.due(x.table(0, 0, 0), 102);
         Check.due(tabled(0, 60).table(0, 60, 0), 100);
         Check.due(tabled(0, 60).table(0, 59, 0), 100);
         Check.due(tabled(0, 60).table(0, Check.HUGE, 0), 100);
